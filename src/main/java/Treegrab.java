@@ -79,6 +79,9 @@ public final class Treegrab {
     private int faultCode;
     private int faultSpot;
 
+    /** The place of the tree for which the search stands prepared. */
+    private int preparedPlace = NONE;
+
     public Treegrab() {
     }
 
@@ -212,7 +215,7 @@ public final class Treegrab {
         if (isUnsearchable(place)) {
             throw new IndexOutOfBoundsException("there is no tree or no pattern");
         }
-        search.prepare(trees[place], grabber);
+        prepareSearch(place);
         if (step < 0 || step >= search.planLength) {
             throw new IndexOutOfBoundsException("the plan has no such step");
         }
@@ -308,7 +311,15 @@ public final class Treegrab {
         return trees[place].count == 0 || grabber.count == 0;
     }
 
+    private void prepareSearch(int place) {
+        if (preparedPlace != place) {
+            search.prepare(trees[place], grabber);
+            preparedPlace = place;
+        }
+    }
+
     private void forgetMatches() {
+        preparedPlace = NONE;
         planned.place = NONE;
         tried.place = NONE;
     }
@@ -319,7 +330,7 @@ public final class Treegrab {
         }
         planned.clear(place, trees[place].count, grabber.numbered);
         if (!isUnsearchable(place)) {
-            search.prepare(trees[place], grabber);
+            prepareSearch(place);
             search.runPlan(planned);
         }
     }
@@ -330,7 +341,7 @@ public final class Treegrab {
         }
         tried.clear(place, trees[place].count, grabber.numbered);
         if (!isUnsearchable(place)) {
-            search.prepare(trees[place], grabber);
+            prepareSearch(place);
             search.runAll(tried);
         }
     }
@@ -797,6 +808,7 @@ public final class Treegrab {
                 return false;
             }
             int part = count;
+            denied[part] = inDenied;
             enterRelation(from, mark, operator);
             enterNode(isNumbered);
             tape.at += isLetter(sign) ? 0 : 1;
@@ -834,7 +846,6 @@ public final class Treegrab {
             froms[count] = from;
             marks[count] = mark;
             operators[count] = operator;
-            denied[count] = mark == DENIED || from != NONE && denied[from];
             optionalHeads[count] = outer == NONE && mark == OPTIONAL ? count : outer;
         }
 
@@ -1055,18 +1066,24 @@ public final class Treegrab {
 
         private final long[] bits = new long[CELLS];
         private int place = NONE;
-        private int radix;
+        private int radix = 1;
         private int digits;
+        private int cells;
         private int count;
 
         private void clear(int ofPlace, int treeNodes, int numbered) {
-            for (int i = 0; i < CELLS; i++) {
-                bits[i] = 0;
-            }
             place = ofPlace;
             radix = treeNodes + 1;
             digits = numbered;
             count = 0;
+            int numbers = 1;
+            for (int i = 0; i < digits; i++) {
+                numbers *= radix;
+            }
+            cells = Math.min(numbers / 64 + 1, CELLS);
+            for (int i = 0; i < cells; i++) {
+                bits[i] = 0;
+            }
         }
 
         private void enter(int[] given) {
@@ -1075,7 +1092,7 @@ public final class Treegrab {
                 number = number * radix + given[i] + 1;
             }
             int cell = number >> 6;
-            if (cell < 0 || cell >= CELLS) {
+            if (cell < 0 || cell >= cells) {
                 return;
             }
             long bit = 1L << (number & 63);
@@ -1086,7 +1103,7 @@ public final class Treegrab {
         /** The number of a match, which is the set's entry behind as many as the match has ahead of it. */
         private int numberOf(int match) {
             int left = match;
-            for (int cell = 0; cell < CELLS; cell++) {
+            for (int cell = 0; cell < cells; cell++) {
                 int here = Long.bitCount(bits[cell]);
                 if (left < here) {
                     long rest = bits[cell];
