@@ -840,6 +840,8 @@ public class PromiseTest {
         edited("(a b)", "b=x", "add n after x; delete x", "2 (a n)");
         edited("(a b)", "b=x", "rename x a; rename x c; rename x d", "3 (a d)");
         edited("(a b)", "b=x > a=y", "wrap y r; add n first y; excise y", "3 (r n b)");
+        edited("(a b c d)", "a=z < b=x < c=y", "wrap x w; wrap y v; move y last z", "3 (a (w b) d c)");
+        edited("(a b c d)", "a=z < b=x < c=y", "wrap x w; wrap y v; delete y; delete x", "4 (a d)");
         edited("(a b c)", "b=x $ c=y", "delete x; move y before y", ISE);
         edited("(a b c)", "b=x $ c=y", "delete y; move y before x", ISE);
         edited("(a (b c) d)", "c=x $ c=y", "rename x z", "0 (a (b c) d)");
