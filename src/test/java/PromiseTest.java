@@ -2,159 +2,7 @@
  * For each promise of the document: ordinary inputs, the edges that it names, and wrong inputs.
  * What is due is worked out by hand from the document.
  */
-public class PromiseTest {
-    private static final String IAE = "IllegalArgumentException";
-    private static final String ISE = "IllegalStateException";
-    private static final String IOOBE = "IndexOutOfBoundsException";
-    private static final int LEAST = Integer.MIN_VALUE;
-    private static final int MOST = Integer.MAX_VALUE;
-
-    private interface Call {
-        long make();
-    }
-
-    private static int asked;
-    private static int wrong;
-
-    private static void due(String what, Object due, Call call) {
-        String answer;
-        try {
-            answer = Long.toString(call.make());
-        } catch (RuntimeException e) {
-            answer = e.getClass().getSimpleName();
-        }
-        same(what, due.toString(), answer);
-    }
-
-    private static void same(String what, String due, String answer) {
-        asked++;
-        if (!due.equals(answer)) {
-            wrong++;
-            System.out.println(what + ": due " + due + ", answered " + answer);
-        }
-    }
-
-    private static void feed(Treegrab t, String text) {
-        for (int i = 0; i < text.length(); i += 8) {
-            int n = Math.min(8, text.length() - i);
-            long bytes = 0;
-            for (int k = 0; k < n; k++) {
-                bytes |= (long) (text.charAt(i + k) & 255) << 8 * k;
-            }
-            t.feed(bytes, n);
-        }
-    }
-
-    private static int plant(Treegrab t, int place, String text) {
-        feed(t, text);
-        return t.plant(place);
-    }
-
-    private static int pattern(Treegrab t, String text) {
-        feed(t, text);
-        return t.pattern();
-    }
-
-    private static int script(Treegrab t, String text) {
-        feed(t, text);
-        return t.script();
-    }
-
-    private static String out(Treegrab t, int length) {
-        StringBuilder text = new StringBuilder();
-        for (int i = 0; i < length; i++) {
-            text.append((char) (t.word(i / 8) >>> 8 * (i % 8) & 255));
-        }
-        return text.toString();
-    }
-
-    private static String shown(Treegrab t, int place) {
-        return out(t, t.show(place));
-    }
-
-    /** All matches, found in both ways, as for instance 0.3 0.4 for two of two nodes each. */
-    private static String found(Treegrab t, int place, int numbered) {
-        StringBuilder planned = new StringBuilder();
-        StringBuilder tried = new StringBuilder();
-        for (int match = 0; match < t.matches(place); match++) {
-            for (int number = 0; number < numbered; number++) {
-                planned.append(number > 0 ? "." : match > 0 ? " " : "").append(t.matchAt(place, match, number));
-            }
-        }
-        for (int match = 0; match < t.matchesByTrying(place); match++) {
-            for (int number = 0; number < numbered; number++) {
-                tried.append(number > 0 ? "." : match > 0 ? " " : "").append(t.matchAtByTrying(place, match, number));
-            }
-        }
-        return planned.toString().equals(tried.toString()) ? planned.toString() : planned + " BUT " + tried;
-    }
-
-    private static void grab(String tree, String pattern, String due) {
-        Treegrab t = new Treegrab();
-        plant(t, 0, tree);
-        int numbered = pattern(t, pattern);
-        same(pattern + " in " + tree, due, found(t, 0, numbered));
-    }
-
-    private static void planned(String tree, String pattern, String due) {
-        Treegrab t = new Treegrab();
-        plant(t, 1, tree);
-        pattern(t, pattern);
-        StringBuilder steps = new StringBuilder();
-        int step = 0;
-        try {
-            for (; step < 9; step++) {
-                steps.append(t.planAt(1, step));
-            }
-        } catch (IndexOutOfBoundsException e) {
-            steps.append('.');
-        }
-        same("plan of " + pattern, due, steps.toString());
-    }
-
-    /** What an edit answers, and the tree behind it. */
-    private static void edited(String tree, String pattern, String script, String due) {
-        Treegrab t = new Treegrab();
-        plant(t, 2, tree);
-        pattern(t, pattern);
-        script(t, script);
-        String before = shown(t, 2);
-        String answer;
-        try {
-            answer = t.edit(2) + " " + shown(t, 2);
-        } catch (IllegalStateException e) {
-            answer = before.equals(shown(t, 2)) ? ISE : ISE + " and changed";
-        }
-        same(script + " in " + tree + " by " + pattern, due, answer);
-    }
-
-    private static final int TREE = 0;
-    private static final int PATTERN = 1;
-    private static final int SCRIPT = 2;
-
-    private static int take(Treegrab t, int taker) {
-        return taker == TREE ? t.plant(0) : taker == PATTERN ? t.pattern() : t.script();
-    }
-
-    /** A text with a fault, told with its code and place; and the tape is used up. */
-    private static void faulty(int taker, String text, int code, int place) {
-        Treegrab t = new Treegrab();
-        feed(t, text);
-        due("<" + text + "> throws", ISE, () -> take(t, taker));
-        due("<" + text + "> code", code, () -> t.fault(false));
-        due("<" + text + "> place", place, () -> t.fault(true));
-        due("<" + text + "> is used up", 1, () -> t.feed('a', 1));
-    }
-
-    private static void whole(int taker, String text, int answer) {
-        Treegrab t = new Treegrab();
-        feed(t, text);
-        due("<" + text + ">", answer, () -> take(t, taker));
-        due("<" + text + "> code", 0, () -> t.fault(false));
-        due("<" + text + "> place", 0, () -> t.fault(true));
-        due("<" + text + "> is used up", 1, () -> t.feed('a', 1));
-    }
-
+public class PromiseTest extends Kit {
     private static void aNewObject() {
         Treegrab t = new Treegrab();
         due("NONE", -1, () -> Treegrab.NONE);
@@ -976,14 +824,6 @@ public class PromiseTest {
         due("word by word", 0, () -> t.word(1));
     }
 
-    private static long packed(String text) {
-        long value = 0;
-        for (int i = 0; i < text.length(); i++) {
-            value |= (long) text.charAt(i) << 8 * i;
-        }
-        return value;
-    }
-
     public static void main(String[] arguments) {
         aNewObject();
         feeding();
@@ -1012,9 +852,6 @@ public class PromiseTest {
         editsThatCannotBe();
         editsAreUndone();
         theOut();
-        System.out.println(asked + " asked, " + wrong + " wrong");
-        if (wrong > 0) {
-            System.exit(1);
-        }
+        end();
     }
 }
